@@ -6,12 +6,13 @@ public final class QuotientFilter {
 
     private static final int FILTERS = 2;
     private static final int PRINTS = 256;
+    private static final int TALLIES = 512; // FILTERS times PRINTS
     private static final int LEAST_SIZE = 8;
     private static final int GREATEST_SIZE = 64;
     private static final int MOST_DOUBLINGS = 3; // from LEAST_SIZE to GREATEST_SIZE
 
     // A tally for each fingerprint, filter 0 first, needs no sorting to be read in ascending order.
-    private final int[] tallies = new int[FILTERS * PRINTS];
+    private final int[] tallies = new int[TALLIES];
     // Kept beside the tallies so that room can be told without summing them.
     private final int[] counts = new int[FILTERS];
     private final int[] sizes = new int[FILTERS];
@@ -70,7 +71,7 @@ public final class QuotientFilter {
         if (!isFilter(f)) {
             return BAD;
         }
-        if (k < 0 || k >= counts[f]) {
+        if (k < 0) {
             return NONE;
         }
         int upToHere = 0;

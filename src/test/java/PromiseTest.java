@@ -294,6 +294,11 @@ public final class PromiseTest {
             due("pour", q.pour(f), 3);
             state("after pour", q, f, 8, 60, 158, 158);
             state("the other stays", q, 1 - f, 8, 60, 158);
+            q = filled(1 - f, 8, 2, 0);
+            fill(q, 1 - f, 8, 1, xWithPrint(255));
+            q.add(f, 1);
+            due("pour of the least and the greatest fingerprint", q.pour(f), 4);
+            state("after the least and the greatest", q, f, 8, 0, 0, 158, 255);
             pourAtEachEdge(f);
             pourBesideGreatSizes(f);
             pourWrongly(f);
