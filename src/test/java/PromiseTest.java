@@ -35,7 +35,8 @@ public final class PromiseTest {
     }
 
     private static void fill(QuotientFilter q, int f, int size, int n, int x) {
-        for (int s = q.size(f); s < size; s *= 2) {
+        // A size of 0 or less is a wrong answer, and doubling it would never end.
+        for (int s = q.size(f); s > 0 && s < size; s *= 2) {
             due("grow(" + f + ") to fill", q.grow(f), 2 * s);
         }
         for (int i = 1; i <= n; i++) {
